@@ -30,7 +30,7 @@ public final class RandomRunsTest {
 
     private RandomRunsTest(int seed) {
         random = new Random(seed);
-        values = 1 + random.nextInt(4);
+        values = 1 + random.nextInt(3);
         attributes = 2 + random.nextInt(5);
         heavy = random.nextInt(5) == 0;
     }
@@ -111,7 +111,7 @@ public final class RandomRunsTest {
     }
 
     private int copies() {
-        int often = heavy ? some(6) : some(40);
+        int often = heavy ? some(6) : 3 + some(40);
         switch (often) {
             case 0: return 2000000000;
             case 1: return some(2000000001);
@@ -122,7 +122,7 @@ public final class RandomRunsTest {
     }
 
     private int relation() {
-        return some(12) == 0 ? near(4) : some(Math.max(1, model.relations.size()));
+        return some(12) == 0 ? near(4) : some(Math.max(1, Math.min(4, model.relations.size())));
     }
 
     private int rowOf(int relation) {
@@ -140,7 +140,7 @@ public final class RandomRunsTest {
     }
 
     private int query() {
-        return some(12) == 0 ? near(16) : some(5) == 0 ? some(1 << model.relations.size()) : (1 << model.relations.size()) - 1;
+        return some(20) == 0 ? near(16) : some(6) == 0 ? some(1 << model.relations.size()) : (1 << model.relations.size()) - 1;
     }
 
     private String one(int depth) {
@@ -195,7 +195,7 @@ public final class RandomRunsTest {
             call("feed", text.charAt(i));
         }
         long n = call("text");
-        if (n > 0 && some(2) == 0) {
+        if (n > 0 && some(4) == 0) {
             call("force", n);
         }
     }
@@ -207,7 +207,7 @@ public final class RandomRunsTest {
         for (int r = 0; r < n; r++) {
             call("relation", some(3) == 0 ? some(6) : some(2) * some(6), rings && r < ring.length ? ring[r] : sets());
         }
-        for (int i = some(rings ? 44 : 34); i > 0; i--) {
+        for (int i = some(8) == 0 ? some(9) : 15 + some(30); i > 0; i--) {
             addRow();
         }
         call("query", query());
@@ -252,13 +252,18 @@ public final class RandomRunsTest {
         if (rows) {
             call("load", sheet, relation(), some(3), some(5), some(9));
         } else {
-            call("strip", sheet, some(3) == 0 ? some(100) : 0);
+            call("strip", sheet, limit());
         }
     }
 
     private long position() {
         long space = model.space();
         return some(15) == 0 ? random.nextLong() : some(10) == 0 ? space : space <= 0 ? some(3) : Math.floorMod(random.nextLong(), space);
+    }
+
+    private long limit() {
+        long count = model.answers();
+        return some(10) == 0 ? -1 : some(3) == 0 || count <= 0 ? some(20) : some(2) == 0 ? count / (1 + some(6)) : 0;
     }
 
     private int digits() {
@@ -278,7 +283,7 @@ public final class RandomRunsTest {
         switch (some(48)) {
             case 0: call("relation", near(6), sets()); break;
             case 1: case 2: case 3: addRow(); break;
-            case 4: case 43: call("remove", r, rowOf(r)); break;
+            case 4: case 43: if (some(3) > 0) call("remove", r, rowOf(r)); break;
             case 5: case 44: call("restore", r, rowOf(r)); break;
             case 6: call("copies", r, rowOf(r), copies()); break;
             case 7: call("told", r, rowOf(r), near(6)); break;
@@ -303,15 +308,15 @@ public final class RandomRunsTest {
             case 26: call("dangling", r); break;
             case 27: call("without", r, rowOf(r)); break;
             case 28: call("key", near(2)); break;
-            case 29: call("strip", near(4), some(10) == 0 ? -1 : some(2) == 0 ? some(20) : 0); break;
+            case 29: call("strip", near(4), limit()); break;
             case 30: call("slate", near(5)); break;
             case 31: call("lot", seed(), near(21), near(6), some(values), near(2)); break;
             case 32: call("tells", near(4), near(3)); break;
             case 33: call("film", near(4), near(13)); break;
             case 34: call("image"); break;
-            case 35: call("back"); break;
+            case 35: if (some(3) == 0) call("back"); break;
             case 36: call("count", near(8)); break;
-            case 37: call("sheet", near(4), near(4) - 1, some(4) == 0 ? near(41) : some(14)); break;
+            case 37: call("sheet", near(4), some(6) == 0 ? near(4) - 1 : some(3), some(4) == 0 ? near(41) : some(14)); break;
             case 38: call("put", near(4), near(12), some(2) == 0 ? some(40) : random.nextLong() >> some(64)); break;
             case 39: call("item", near(4), near(12)); break;
             case 40: call("copy", near(4), near(8), near(4), near(8), near(6)); break;
