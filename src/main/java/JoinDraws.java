@@ -130,8 +130,8 @@ public final class JoinDraws {
             case 1: return of.attributes;
             case 2: return of.size;
             case 3: return of.live;
-            case 4: return parentOf(relation);
-            case 5: return isAsked(relation) ? current().tree.kids[relation] : 0;
+            case 4: return parentOf(relation, current().tree);
+            case 5: return current().tree.kids[relation];
             default: return of.passing(texts[rule], relation);
         }
     }
@@ -197,25 +197,25 @@ public final class JoinDraws {
     // ---- weights, positions
 
     public long weight(int relation, int row) {
-        if (!isRow(relation, row) || !isTold() || !isIn(current().tree.kept, relation)) {
+        if (!isRow(relation, row) || !current().isTold() || !isIn(current().tree.kept, relation)) {
             return NO;
         }
         return current().weight[relation * ROWS + row];
     }
 
     public long bound(int relation) {
-        if (!isRelation(relation) || !isTold() || !isIn(current().tree.checks, relation)) {
+        if (!isRelation(relation) || !current().isTold() || !isIn(current().tree.checks, relation)) {
             return NO;
         }
         return current().bound[relation];
     }
 
     public long space() {
-        return isTold() ? current().space : NO;
+        return current().isTold() ? current().space : NO;
     }
 
     public long answers() {
-        return isTold() ? current().tally() : NO;
+        return current().isTold() ? current().tally() : NO;
     }
 
     public int at(long position, int what) {
@@ -243,7 +243,7 @@ public final class JoinDraws {
     }
 
     public long find(int digits) {
-        return isTold() ? current().placeOf(digits) : NO;
+        return current().isTold() ? current().placeOf(digits) : NO;
     }
 
     public int draw(int seed, int what) {
@@ -265,7 +265,7 @@ public final class JoinDraws {
     }
 
     public long shuffle(int seed, int n, int i) {
-        if (n < 1 || n > Shuffle.PLACES || i < 0 || i >= n || !isTold() || current().space < n) {
+        if (n < 1 || n > Shuffle.PLACES || i < 0 || i >= n || !current().isTold() || current().space < n) {
             return NO;
         }
         return shuffled.placed(seed, current().space, i);
@@ -274,7 +274,7 @@ public final class JoinDraws {
     // ---- what the answers are
 
     public long odds(int relation, int row, int part) {
-        if (!isRow(relation, row) || !isPart(part) || !isAsked(relation) || !isTold()) {
+        if (!isRow(relation, row) || !isPart(part) || !isAsked(relation) || !current().isTold()) {
             return NO;
         }
         Join join = current();
@@ -286,7 +286,7 @@ public final class JoinDraws {
         if (attribute < 0 || attribute >= ATTRIBUTES || v < 0 || v >= VALUES) {
             return NO;
         }
-        if (!isIn(askedAttributes(), attribute) || !isTold()) {
+        if (!isIn(askedAttributes(), attribute) || !current().isTold()) {
             return NO;
         }
         return current().countWith(attribute, v);
@@ -299,7 +299,7 @@ public final class JoinDraws {
         if (!isIn(askedAttributes(), attribute)) {
             return STATE;
         }
-        if (!isTold()) {
+        if (!current().isTold()) {
             return GREAT;
         }
         int best = NONE;
@@ -321,7 +321,7 @@ public final class JoinDraws {
         if (!isAsked(relation)) {
             return STATE;
         }
-        return isTold() ? current().unused(relation) : GREAT;
+        return current().isTold() ? current().unused(relation) : GREAT;
     }
 
     public long without(int relation, int row) {
@@ -336,7 +336,7 @@ public final class JoinDraws {
     }
 
     public long key(int what) {
-        if (what < 0 || what > 1 || !isTold()) {
+        if (what < 0 || what > 1 || !current().isTold()) {
             return NO;
         }
         Join join = current();
@@ -392,7 +392,7 @@ public final class JoinDraws {
         if (m < 1 || m > 20 || !isPart(part) || !isIn(askedAttributes(), attribute)) {
             return NO;
         }
-        if (!isTold() || current().space == 0) {
+        if (!current().isTold() || current().space == 0) {
             return NO;
         }
         Join join = current();
@@ -414,7 +414,7 @@ public final class JoinDraws {
         if (asked == 0) {
             return STATE;
         }
-        if (!isTold()) {
+        if (!current().isTold()) {
             return GREAT;
         }
         if (sheets[sheet].sort == MISSING) {
@@ -599,11 +599,6 @@ public final class JoinDraws {
         return isIn(asked, relation);
     }
 
-    /** Whether there is a query and it is not GREAT. */
-    private boolean isTold() {
-        return asked != 0 && !current().great;
-    }
-
     private Join current() {
         if (stale) {
             now.tell(relations, texts[rule], asked);
@@ -612,11 +607,10 @@ public final class JoinDraws {
         return now;
     }
 
-    private int parentOf(int relation) {
+    private int parentOf(int relation, Tree tree) {
         if (!isAsked(relation)) {
             return NOT_ASKED;
         }
-        Tree tree = current().tree;
         return isIn(tree.checks, relation) ? A_CHECK : tree.parent[relation];
     }
 
@@ -1051,7 +1045,11 @@ public final class JoinDraws {
             } else {
                 step();
                 readEither(open + 1);
-                expect(')');
+                if (token == ')') {
+                    step();
+                } else {
+                    fail();
+                }
             }
         }
 
@@ -1259,6 +1257,11 @@ public final class JoinDraws {
             boundChecks();
         }
 
+        /** Whether there is a query and it is not GREAT. */
+        boolean isTold() {
+            return query != 0 && !great;
+        }
+
         private long plus(long a, long b) {
             great = great || a > MOST - b;
             return great ? 0 : a + b;
@@ -1341,13 +1344,14 @@ public final class JoinDraws {
             }
             stands = 0;
             spread = 0;
+            if (tree.root != NONE) {
+                led[tree.root] = p;
+            }
             for (int i = tree.steps - 1; i >= 0; i--) {
-                if (i == tree.steps - 1) {
-                    led[tree.root] = p;
-                }
                 if (!leadInto(tree.order[i])) {
                     return false;
                 }
+                leadChildren(tree.order[i]);
             }
             for (int r = 0; r < RELATIONS; r++) {
                 if (isIn(tree.checks, r) && !check(r)) {
@@ -1357,15 +1361,15 @@ public final class JoinDraws {
             return true;
         }
 
-        /** Of a tree, matching all that stands is matching the parent's row. */
+        /** What is left of what was led in stays. Of a tree, matching all that stands is matching the parent's row. */
         private boolean leadInto(int r) {
             long p = led[r];
             for (int row = 0; row < relations[r].size; row++) {
                 if (relations[r].matches(row, stands, spread)) {
                     long w = weight[r * ROWS + row];
                     if (p < w) {
+                        led[r] = p;
                         seat(r, row);
-                        leadChildren(r, row, p);
                         return true;
                     }
                     p -= w;
@@ -1374,8 +1378,9 @@ public final class JoinDraws {
             return false;
         }
 
-        private void leadChildren(int r, int row, long rest) {
-            long p = rest;
+        private void leadChildren(int r) {
+            int row = pick[r];
+            long p = led[r];
             for (int child = RELATIONS - 1; child >= 0; child--) {
                 long sum = isIn(tree.kids[r], child) ? under[(r * ROWS + row) * RELATIONS + child] : 0;
                 if (sum > 0) {
