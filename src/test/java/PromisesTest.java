@@ -569,6 +569,8 @@ public final class PromisesTest {
         fault("fits g;", 5);
         fault("fits A;", 5);
         fault("fits ab;", 5);
+        fault("fits az;", 5);
+        fault("fits za;", 5);
         fault("fits rows;", 5);
         fault("fits row+from*copies%f-e<d;", -1);
         fault("fits a\t;", 6);
@@ -746,6 +748,8 @@ public final class PromisesTest {
         due("relation -1", x.bound(-1), NO);
         x.row(2, 2, 6, 0, 8);
         due("a heap of two", x.bound(2), 10);
+        x.row(2, 1, 6, 0, 3);
+        due("heaped by both values", x.bound(2), 10);
         x.force(textOf(x, "fits from < 2 or row = 2;"));
         due("of those that pass", x.bound(2), 1);
         x.force(textOf(x, "fits from < 2;"));
@@ -761,6 +765,11 @@ public final class PromisesTest {
         y.row(2, 1, 1, 5, 3);
         y.row(2, 1, 2, 5, 4);
         due("heaped by what is seen: d is not", y.bound(2), 5);
+        JoinDraws late = of(6, 12, 11);
+        late.row(2, 1, 1, 1, 2);
+        late.row(2, 2, 1, 1, 3);
+        late.row(2, 2, 2, 1, 4);
+        due("heaped by what is seen: a is not", late.bound(2), 5);
         JoinDraws z = of(3, 6, 13, 13);
         z.row(2, 1, 1, 0, 2);
         z.row(2, 1, 1, 5, 3);
@@ -982,6 +991,29 @@ public final class PromisesTest {
         due("rows of a check alike", z.find(112), 2);
         due("the first of these", z.find(111), 0);
         due("the last position", z.at(4, 1), 112);
+        JoinDraws w = of(3, 6, 5);
+        w.row(0, 4, 2, 0, 1);
+        w.row(0, 2, 2, 0, 1);
+        w.row(1, 1, 3, 0, 1);
+        w.row(1, 2, 3, 0, 2);
+        w.row(2, 4, 3, 0, 7);
+        w.row(2, 2, 3, 0, 5);
+        due("rows of a check that do not match are not ahead", w.find(222), 7);
+        due("the same position leads there", w.at(7, 1), 222);
+        due("find(121)", w.find(121), 0);
+        due("space", w.space(), 28);
+        JoinDraws v = of(1, 2, 3);
+        v.row(0, 5, 0, 0, 1);
+        v.row(0, 2, 0, 0, 4);
+        v.row(0, 2, 0, 0, 5);
+        v.row(1, 1, 0, 0, 2);
+        v.row(1, 3, 0, 0, 3);
+        v.row(1, 3, 0, 0, 1);
+        v.row(2, 5, 1, 0, 2);
+        v.row(2, 2, 3, 0, 1);
+        due("of the root's second row", v.find(332), 4 + 4 * 4 + 3);
+        due("the same position leads there", v.at(23, 1), 332);
+        due("the one ahead does not", v.at(22, 1), 322);
     }
 
     private static void draw() {
@@ -1049,7 +1081,16 @@ public final class PromisesTest {
         JoinDraws x = of(1);
         x.row(0, 0, 0, 0, 2);
         x.row(0, 1, 0, 0, 1);
-        due("a seed by which 30 numbers are too high, or none", x.draw(0, 1), 1);
+        due("numbers drawn anew are no positions", x.draw(44756, 1), 1);
+        long[][] seeds = {{3, 44756}, {5, 20562}, {17, 8172}, {32769, 7204}, {65537, 89948}, {2097153, 34774}};
+        for (long[] s : seeds) {
+            JoinDraws y = of(1);
+            int first = (int) (s[0] / 2);
+            y.row(0, 0, 0, 0, first);
+            y.row(0, 1, 0, 0, (int) s[0] - first);
+            z = (int) s[1];
+            due("draw of " + s[0] + ", long drawn anew", y.draw((int) s[1], 0), below(s[0]) < first ? 1 : 2);
+        }
     }
 
     private static void shuffle() {
@@ -1162,6 +1203,9 @@ public final class PromisesTest {
         due("0 too", y.likeliest(0), 0);
         y.copies(0, 0, 5);
         due("9 too", y.likeliest(0), 9);
+        JoinDraws once = of(1);
+        once.row(0, 7, 0, 0, 1);
+        due("once is enough", once.likeliest(0), 7);
     }
 
     private static void dangling() {
@@ -1518,6 +1562,7 @@ public final class PromisesTest {
         x.row(2, 1, 1, 0, 1);
         x.query(7);
         x.force(text);
+        due("answers between", x.answers(), 154);
         x.feed('x');
         lay(x, 0, 0, 8);
         x.strip(0, 0);
