@@ -125,7 +125,9 @@ final class HostEdges extends Joins {
 
     private static void kept() {
         edge(35, "AN IMAGE keeps THE QUERY, THE RULE,", () -> pair().text("fits 0;").call("image").call("query", 2).call("force", 1)
-            .due(0, "answers").call("back").due(3, "count", 6).due(0, "count", 5).due(30, "answers"));
+            .due(0, "answers").call("back").due(3, "count", 6).due(0, "count", 5).due(30, "answers")
+            .call("query", 1).call("force", 1).call("image").call("query", 3).call("force", 0).call("back").due(1, "count", 6)
+            .due(1, "count", 5).due(0, "answers"));
         edge(35, "of ROWS COPIES, whether LIVE", () -> {
             Run run = pair().call("remove", 0, 0).call("image").call("restore", 0, 0).call("remove", 1, 3).call("copies", 0, 1, 77)
                 .call("copies", 1, 0, MOST).call("back");

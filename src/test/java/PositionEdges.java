@@ -154,6 +154,8 @@ final class PositionEdges extends Joins {
                 eight.call("row", 0, 1, 0, 0, 2);
             }
             eight.due(14, "find", 8).due(0, "find", 1);
+            findLed();
+            findChecked();
         });
         edge(20, "NO: THE QUERY is empty, GREAT", () -> {
             empty().refused(NO, "find", 0).refused(NO, "find", 111);
@@ -171,6 +173,30 @@ final class PositionEdges extends Joins {
             ring().due(NO, "find", 112).due(NO, "find", 11).due(NO, "find", 231);
             apart().due(NO, "find", 11);
         });
+    }
+
+    /** The least position by what is led into children, and into the root's second row. */
+    private static void findLed() {
+        of(1, 2, 3).call("row", 0, 1, 0, 0, 2).call("row", 0, 1, 0, 0, 1).call("row", 1, 1, 0, 0, 1).call("row", 1, 1, 0, 0, 4)
+            .call("row", 2, 1, 1, 0, 2).due(0, "find", 111).due(1, "find", 121).due(10, "find", 211).due(11, "find", 221);
+        Run run = of(1, 2, 3).call("row", 0, 5, 0, 0, 1).call("row", 0, 2, 0, 0, 4).call("row", 0, 2, 0, 0, 5)
+            .call("row", 1, 1, 0, 0, 2).call("row", 1, 3, 0, 0, 3).call("row", 1, 3, 0, 0, 1)
+            .call("row", 2, 5, 1, 0, 2).call("row", 2, 2, 3, 0, 1);
+        // 4 are ahead of the root's row, then 4 times 4, then 3
+        run.due(23, "find", 332).due(332, "at", 23, 1).due(322, "at", 22, 1).due(4, "find", 222);
+        // a child of a child
+        of(3, 6, 12).call("row", 0, 1, 1, 0, 1).call("row", 0, 2, 1, 0, 3).call("row", 1, 1, 1, 0, 1).call("row", 1, 1, 1, 0, 2)
+            .call("row", 2, 9, 1, 0, 7).call("row", 2, 1, 1, 0, 5).due(1, "find", 212).due(4, "find", 122).due(5, "find", 222);
+    }
+
+    /** Rows of a check that do not match what stands are not ahead. */
+    private static void findChecked() {
+        of(3, 6, 5).call("row", 0, 4, 2, 0, 1).call("row", 0, 2, 2, 0, 1).call("row", 1, 1, 3, 0, 1).call("row", 1, 2, 3, 0, 2)
+            .call("row", 2, 4, 3, 0, 7).call("row", 2, 2, 3, 0, 5).due(0, "find", 121).due(7, "find", 222).due(222, "at", 7, 1);
+        // nor those that do not match a check ahead
+        of(3, 6, 13, 13).call("row", 0, 1, 1, 0, 1).call("row", 1, 1, 1, 0, 1).call("row", 2, 1, 1, 5, 1)
+            .call("row", 3, 1, 1, 6, 1).call("row", 3, 1, 1, 5, 2).due(0, "find", 1112).due(NO, "find", 1111);
+        bad().call("row", 2, 1, 3, 0, 2).call("row", 2, 1, 3, 0, 3).due(0, "find", 112).due(2, "find", 113).due(NO, "find", 111);
     }
 
     /** SPACE is 9, and the only good position is 0. */

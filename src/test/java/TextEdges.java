@@ -38,8 +38,12 @@ final class TextEdges extends Joins {
         edge(13, "A TEXT is read from THE TAPE (160 bytes at most).", () -> {
             none().feed("fits 1" + blanks(153) + ";").due(160, "count", 4).due(1, "text");
             none().feed("fits 1" + blanks(154)).refused(FULL, "feed", ';').due(-260, "text");
-            none().feed("fits 0" + "+1".repeat(76) + " ;").due(1, "text").call("force", 1).call("relation", BAG, 1)
-                .call("row", 0, 0, 0, 0, 76).due(1, "told", 0, 0, 5);
+            // the longest sums, one behind another: 1 and 0
+            String ones = "+1".repeat(75);
+            none().feed("fits 0" + ones + "-75;").due(160, "count", 4).due(1, "text");
+            Run run = none().call("relation", BAG, 1).call("row", 0, 0, 0, 0, 76);
+            run.rule("fits 1" + ones + "-75;").due(1, "told", 0, 0, 5).rule("fits 0" + ones + "-75;").due(0, "told", 0, 0, 5)
+                .call("force", 1).due(1, "told", 0, 0, 5);
         });
     }
 
@@ -79,6 +83,8 @@ final class TextEdges extends Joins {
             fault("fits notb;", 5);
             fault("fits aand b;", 5);
             fault("fits a andb;", 7);
+            fault("fits az;", 5);
+            fault("fits za;", 5);
             fault("fits A;", 5);
             fault("Fits a;", 0);
             fault("fits `;", 5);

@@ -161,6 +161,7 @@ final class TreeEdges extends Joins {
             of(3, 6, 5, 13).due(3, "shape", 0).due(12, "shape", 1);
             of(3, 6, 5, 6).due(11, "shape", 0).due(4, "shape", 1);
             of(3).due(0, "shape", 1);
+            of(8, 3, 6, 5).due(7, "shape", 0).due(8, "shape", 1).call("query", 14).due(6, "shape", 0).due(8, "shape", 1);
         });
         edge(11, "THE TREE is that of all KEPT.", () -> {
             // of 0, 1 alone the root is 1
