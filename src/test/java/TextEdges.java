@@ -240,6 +240,18 @@ final class TextEdges extends Joins {
         });
     }
 
+    /** A word with one letter more, one less, and each letter by another one. */
+    private static String[] others(String word) {
+        String[] others = new String[word.length() + 3];
+        for (int i = 0; i < word.length(); i++) {
+            others[i] = word.substring(0, i) + "z" + word.substring(i + 1);
+        }
+        others[word.length()] = word + "s";
+        others[word.length() + 1] = "s" + word;
+        others[word.length() + 2] = word.substring(0, word.length() - 1) + "z".repeat(word.length() == 2 ? 1 : 0);
+        return others;
+    }
+
     private static void names() {
         edge(13, "NAMES are a b c d e f row from copies; fits, or, and, not are KEYS.", () -> {
             for (String name : "a b c d e f row from copies".split(" ")) {
@@ -252,13 +264,26 @@ final class TextEdges extends Joins {
                 fault("fits " + key + ";", 5);
                 fault("fits a + " + key + ";", 9);
             }
-            fault("fits rows;", 5);
-            fault("fits ro;", 5);
-            fault("fits fro;", 5);
-            fault("fits copie;", 5);
-            fault("fits copiess;", 5);
-            fault("fit 1;", 0);
-            fault("fitss 1;", 0);
+            for (String key : "or and not a row".split(" ")) {
+                fault(key + " 1;", 0);
+            }
+            fault("fits a fits b;", 7);
+            for (String word : "row from copies".split(" ")) {
+                for (String other : others(word)) {
+                    fault("fits " + other + ";", 5);
+                }
+            }
+            for (String other : others("fits")) {
+                fault(other + " 1;", 0);
+            }
+            for (String other : others("not")) {
+                fault("fits " + other + " 1;", 5);
+            }
+            for (String key : "or and".split(" ")) {
+                for (String other : others(key)) {
+                    fault("fits 1 " + other + " 1;", 7);
+                }
+            }
         });
         edge(13, "Of a ROW: a .. f: its VALUE (-1, if its RELATION hasn't the ATTRIBUTE)", () -> {
             holds("fits b = 3 and d = 0 and f = 7;");
@@ -354,9 +379,15 @@ final class TextEdges extends Joins {
             fault("fits ?", 5);
             fault("fits 1?;", 6);
             fault("fits 1;?", 7);
-            fault("fits \u00e9;", 5);
-            fault("fits \u00ff;", 5);
-            fault("fits \u0001;", 5);
+            for (char c = 0; c < 256; c++) {
+                if ("abcdefghijklmnopqrstuvwxyz0123456789();+-*%<= \n".indexOf(c) < 0) {
+                    fault(c + " 1;", 0);
+                    fault("fits " + c + ";", 5);
+                    fault("fits " + c + "1;", 5);
+                    fault("fits 1" + c + "1;", 6);
+                    fault("fits 1;" + c, 7);
+                }
+            }
         });
         edge(13, "a WORD that is neither KEY nor NAME", () -> {
             fault("fits x;", 5);

@@ -37,7 +37,8 @@ final class TreeEdges extends Joins {
             .due(-7, "about", 0, 4).due(-7, "about", 1, 4));
         edge(9, "CHILDREN (5; bits)", () -> of(7, 1, 2, 4).due(6, "about", 0, 5).due(0, "about", 1, 5).due(0, "about", 2, 5)
             .due(1, "about", 3, 5).call("query", 8).due(0, "about", 3, 5).due(0, "about", 0, 5));
-        edge(9, "CHILDREN (5; bits), ROWS that PASS (6; bits).", () -> ring().due(0, "about", 2, 5).due(1, "about", 1, 5).call("query", 0).due(0, "about", 1, 5));
+        edge(9, "CHILDREN (5; bits), ROWS that PASS (6; bits).", () -> ring().due(0, "about", 2, 5).due(1, "about", 1, 5)
+            .due(7, "about", 2, 6).call("query", 0).due(0, "about", 1, 5).due(7, "about", 2, 6));
         edge(9, "ROWS that PASS (6; bits).", () -> pair().due(15, "about", 1, 6).rule("fits row = 1 or row = 3;").due(10, "about", 1, 6)
             .call("remove", 1, 3).due(2, "about", 1, 6).call("query", 0).due(2, "about", 1, 6).rule("fits 0;").due(0, "about", 1, 6));
         edge(9, "BAD.", () -> busy(ring()).refused(BAD, "about", 0, -1).refused(BAD, "about", 0, 7).refused(BAD, "about", 3, 0)
