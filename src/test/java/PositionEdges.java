@@ -197,6 +197,8 @@ final class PositionEdges extends Joins {
         of(3, 6, 13, 13).call("row", 0, 1, 1, 0, 1).call("row", 1, 1, 1, 0, 1).call("row", 2, 1, 1, 5, 1)
             .call("row", 3, 1, 1, 6, 1).call("row", 3, 1, 1, 5, 2).due(0, "find", 1112).due(NO, "find", 1111);
         bad().call("row", 2, 1, 3, 0, 2).call("row", 2, 1, 3, 0, 3).due(0, "find", 112).due(2, "find", 113).due(NO, "find", 111);
+        of(3, 6, 5).call("row", 0, 2, 2, 0, 1).call("row", 1, 2, 4, 0, 1).call("row", 2, 2, 4, 0, 2).call("row", 2, 2, 4, 0, 3)
+            .due(0, "find", 111).due(2, "find", 112);
         // of d, or a, which no other has, a row ahead may have another value
         of(3, 6, 13).call("row", 0, 1, 1, 0, 1).call("row", 1, 1, 1, 0, 1).call("row", 2, 1, 1, 7, 2).call("row", 2, 1, 1, 5, 3)
             .due(0, "find", 111).due(2, "find", 112).due(111, "at", 1, 1).due(112, "at", 2, 1).due(5, "at", 4, 5);
