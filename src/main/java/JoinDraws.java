@@ -972,6 +972,12 @@ public final class JoinDraws {
             }
         }
 
+        private void emitAll(int doing, int times) {
+            for (int i = 0; i < times; i++) {
+                emit(doing, 0);
+            }
+        }
+
         private void readEither(int open) {
             readBoth(open);
             for (int turn = 0; turn < TAPE && token == OR; turn++) {
@@ -991,15 +997,13 @@ public final class JoinDraws {
         }
 
         private void readDenied(int open) {
-            if (token != NOT) {
-                readCompared(open);
-            } else if (open >= OPEN) {
-                fail();
-            } else {
+            int nots = 0;
+            while (token == NOT && open + nots < OPEN) {
                 step();
-                readDenied(open + 1);
-                emit(Text.DENY, 0);
+                nots++;
             }
+            readCompared(open + nots);
+            emitAll(Text.DENY, nots);
         }
 
         private void readCompared(int open) {
@@ -1033,23 +1037,25 @@ public final class JoinDraws {
         }
 
         private void readOne(int open) {
+            int minuses = 0;
+            while (token == '-' && open + minuses < OPEN) {
+                step();
+                minuses++;
+            }
+            readPlain(open + minuses);
+            emitAll(Text.MINUS, minuses);
+        }
+
+        private void readPlain(int open) {
             if (token == NUMBER || token == NAME) {
                 emit(token == NUMBER ? Text.NUMBER : Text.NAME, number);
                 step();
-            } else if (token != '-' && token != '(' || open >= OPEN) {
-                fail();
-            } else if (token == '-') {
-                step();
-                readOne(open + 1);
-                emit(Text.MINUS, 0);
-            } else {
+            } else if (token == '(' && open < OPEN) {
                 step();
                 readEither(open + 1);
-                if (token == ')') {
-                    step();
-                } else {
-                    fail();
-                }
+                expect(')');
+            } else {
+                fail();
             }
         }
 
@@ -1512,14 +1518,17 @@ public final class JoinDraws {
             return count;
         }
 
-        /** How often the answers count that go on from what is given by rows of relation r and those behind it. */
-        private long walk(int r, int given, int givenSpread, long often) {
-            if (r >= RELATIONS) {
-                return often;
+        /** How often the answers count that go on from what is given by rows of relations from one on. */
+        private long walk(int from, int given, int givenSpread, long often) {
+            for (int r = from; r < RELATIONS; r++) {
+                if (isIn(query, r)) {
+                    return walkRows(r, given, givenSpread, often);
+                }
             }
-            if (!isIn(query, r)) {
-                return walk(r + 1, given, givenSpread, often);
-            }
+            return often;
+        }
+
+        private long walkRows(int r, int given, int givenSpread, long often) {
             Relation of = relations[r];
             long sum = 0;
             for (int row = 0; row < of.size; row++) {
